@@ -1,0 +1,19 @@
+/** Runs every test of the project. */
+public final class AllTests {
+    private AllTests() {
+    }
+
+    public static void main(String[] args) throws Exception {
+        TextTests.run();
+        KnowTests.run();
+        SearchTests.run();
+        SheetTests.run();
+        ModelTests.run();
+        RoomTests.run();
+        LanguageTests.run(args[0]);
+        System.out.println(Due.passed + " passed, " + Due.failed + " failed");
+        if (Due.failed != 0) {
+            System.exit(1);
+        }
+    }
+}
