@@ -1160,6 +1160,9 @@ public final class ShakeHands {
 
         /** One HAND more behind `depth` of them: whether any ROW changed. */
         private boolean step(int depth, int pair) {
+            if (depth < 0 || depth >= LEVELS) {
+                return false;
+            }
             System.arraycopy(level[depth], 0, level[depth + 1], 0, MOST_PEOPLE);
             return circle.meet(level[depth + 1], minds.gloved, pair);
         }

@@ -13,6 +13,7 @@ final class KnowTests {
         forget();
         glove();
         shake();
+        shakePairs();
         joins();
         feast();
         after();
@@ -136,6 +137,19 @@ final class KnowTests {
         Due.row(x, 1, 4, 5, 6, 7, 14, 13, 12, 11, 10);
     }
 
+    /** Each PAIR of six: these two know it then, and nobody else. */
+    private static void shakePairs() {
+        for (int a = 0; a < 6; a++) {
+            for (int b = 0; b < 6; b++) {
+                if (a != b) {
+                    ShakeHands x = Due.told("people 6;knows " + a + " 4;");
+                    Due.is("shake", 1, x.shake(a, b));
+                    Due.is("who(4)", 1 << a | 1 << b, x.who(4));
+                }
+            }
+        }
+    }
+
     private static void joins() {
         // the first JOIN goes ahead, again and again
         ShakeHands x = Due.told("knows 0 1 2;knows 1 3;join 3 4 5;join 1 2 4;");
@@ -257,6 +271,20 @@ final class KnowTests {
         Due.is("lives(1)", NONE, x.lives(1));
         x.glove(0, true);
         Due.is("lives(2) with GLOVES", NONE, x.lives(2));
+        // 208 DAYS of life: 200 at most are looked through
+        x = Due.told("people 6;hold 7;knows 0 4 7;knows 1 1 4;knows 2 3 1;knows 3 0 11;knows 4 9 6;knows 5 2 7;"
+                + "daily 0 3;daily 4 2;daily 0 4;daily 5 0;daily 4 3;daily 3 1;");
+        x.days(7);
+        Due.is("201 DAYS left", NONE, x.lives(11));
+        x.days(1);
+        Due.is("200 DAYS left", 200, x.lives(11));
+        x.days(99);
+        x.days(99);
+        Due.is("2 DAYS left", 2, x.lives(11));
+        x.days(1);
+        Due.is("1 DAY left", 1, x.lives(11));
+        Due.is("none left", 0, x.days(1) >>> 11 & 1);
+        Due.is("no DAY left", 0, x.lives(11));
     }
 
     private static void comes() {
@@ -280,6 +308,23 @@ final class KnowTests {
         x = Due.told("people 3;hold 2;knows 0 1 2;knows 1 2 1;daily 0 1;");
         Due.is("comes(0)", 1, x.comes(0));
         Due.is("comes(1)", 1, x.comes(1));
+        // what comes back behind 200 DAYS, and behind 201
+        x = Due.told("people 6;hold 6;knows 0 3 2;knows 1 1 9;knows 2 2 5;knows 3 5;knows 4 4 7;knows 5 8 5;"
+                + "daily 0 1;daily 2 5;daily 4 0;daily 0 2;daily 0 5;daily 4 3;daily 0 4;daily 5 0;");
+        Due.is("comes(0)", 8, x.comes(0));
+        Due.is("comes(1)", 192, x.comes(1));
+        x = Due.told("people 6;hold 5;knows 0 3;knows 1 12;knows 2 3 0;knows 3 10 6;knows 4 11 14;knows 5 10;"
+                + "join 11 10 8;daily 3 0;daily 3 2;daily 1 2;daily 1 5;daily 2 1;daily 1 4;");
+        Due.is("comes(0)", NONE, x.comes(0));
+        Due.is("comes(1)", NONE, x.comes(1));
+        x.days(1);
+        Due.is("comes(0)", 8, x.comes(0));
+        Due.is("comes(1)", 192, x.comes(1));
+        x.days(7);
+        Due.is("comes(0)", 1, x.comes(0));
+        x.days(2);
+        Due.is("comes(0)", 0, x.comes(0));
+        Due.is("comes(1)", 192, x.comes(1));
     }
 
     private static void days() {

@@ -2,7 +2,7 @@ import java.util.Random;
 
 /** The program against PlainModel, by runs of calls drawn from fixed seeds. */
 final class ModelTests {
-    private static final int RUNS = 300;
+    private static final int RUNS = 1000;
     private static final int TEXTS = 20000;
 
     private final Random random;
@@ -148,8 +148,8 @@ final class ModelTests {
     }
 
     private void drive() {
-        // the model looks through everything: five PEOPLE take it long, six too long
-        tell(text(below(20) == 0 ? 5 : 4));
+        // the model looks through everything: many PEOPLE take it long
+        tell(text(below(60) == 0 ? 6 : below(10) == 0 ? 5 : 4));
         same();
         for (int i = 0; i < 60; i++) {
             call();

@@ -118,6 +118,10 @@ final class SearchTests {
         Due.is("3 to 0", 1, x.rounds(3, 1, 0));
         Due.is("3 to 0, not to 1 for a while", NONE, x.rounds(3, 1, 2));
         Due.is("nobody has it", NONE, x.rounds(6, 1, 0));
+        Due.is("others now, first of all", NONE, Due.told("knows 0 1;").rounds(1, 0, 1));
+        // 0-3 and 1-2 at once
+        x = Due.told("people 4;knows 0 4;knows 1 1;knows 2 2;knows 3 5;join 1 2 3;join 4 5 3;");
+        Due.is("two at once", 1, x.rounds(3, 15, 0));
     }
 
     private static void lose() {

@@ -86,8 +86,13 @@ final class SheetTests {
         // new CELLS are 0
         x.lay(3, 1, 1);
         Due.is("read", 1, x.read(3, 0, 0, 1));
+        x.lay(3, 4, 1);
         x.sheet(3, 0, 5);
         Due.is("read of CELLS 0", -20, x.read(3, 0, 0, 1));
+        Due.is("read of CELLS 0", -20, x.read(3, 0, 3, 1));
+        x.lay(3, 0, 1);
+        x.sheet(3, 2, 40);
+        Due.is("read of CELLS 0", -20, x.read(3, 2, 0, 1));
     }
 
     private static void lay() {
@@ -229,6 +234,14 @@ final class SheetTests {
         Due.is("count(1)", 0, x.count(1));
         x.learn(3, 1);
         Due.is("count(1)", 1, x.count(1));
+        x.forget(0, 1);
+        Due.is("count(1) but for ONE 0", 0, x.count(1));
+        x.learn(0, 1);
+        for (int p = 0; p < 4; p++) {
+            x.learn(p, 0);
+            x.learn(p, 15);
+        }
+        Due.is("count(1)", 3, x.count(1));
         x.saw(1, 0);
         Due.is("count(2)", 1, x.count(2));
         x.keep(0);

@@ -14,6 +14,7 @@ final class TextTests {
         taken();
         emptyText();
         blanks();
+        fullTape();
         ruleHandJoin();
         faultsOfTokens();
         faultsOfPlaces();
@@ -148,6 +149,20 @@ final class TextTests {
         Due.refuses("peoplehold 3;", 2, 0);
     }
 
+    /** Texts that fill THE TAPE to its last byte. */
+    private static void fullTape() {
+        String most = "hand 0 1;".repeat(16) + "daily 0 1;".repeat(8) + "join 1 2 3;".repeat(4) + "knows 0 1;";
+        Due.told(most + " ".repeat(309 - most.length()) + "knows 1 02;");
+        Due.refuses(most + " ".repeat(310 - most.length()) + "knows 1 02", 2, 320);
+        Due.refuses(most + " ".repeat(310 - most.length()) + "knows 1  2", 2, 320);
+        Due.refuses(most + " ".repeat(315 - most.length()) + "knows", 2, 320);
+        Due.refuses(most + " ".repeat(317 - most.length()) + "123", 1, 317);
+        Due.refuses("a".repeat(320), 2, 0);
+        Due.refuses("1".repeat(320), 1, 0);
+        Due.refuses(";".repeat(320), 2, 0);
+        Due.told(" ".repeat(320));
+    }
+
     private static void ruleHandJoin() {
         ShakeHands x = Due.told("people 6;hand 0 1;hand 5 4;hand 3 5;daily 2 0;join 7 5 9;join 0 15 1;");
         Due.is("rule(-1)", BAD, x.rule(-1));
@@ -202,6 +217,13 @@ final class TextTests {
         Due.refuses("3;", 2, 0);
         Due.refuses("hands 0 1;", 2, 0);
         Due.refuses("han 0 1;", 2, 0);
+        String[] lines = {"people 3;", "hold 3;", "knows 0 1;", "join 1 2 3;", "hand 0 1;", "daily 0 1;", "glove 0;"};
+        for (String line : lines) {
+            Due.refuses("x" + line.substring(1), 2, 0);
+            Due.refuses(line.replace(" ", "").replaceAll("[0-9]", "") + "x", 2, line.indexOf(' '));
+            Due.refuses(line.substring(0, line.indexOf(' ')) + "s" + line.substring(line.indexOf(' ')), 2, 0);
+            Due.refuses(line + line.substring(0, line.indexOf(' ') - 1) + "z;", 2, line.length());
+        }
         Due.refuses("people", 2, 6);
         Due.refuses("people  ", 2, 8);
         Due.refuses("people ;", 2, 7);
@@ -338,5 +360,14 @@ final class TextTests {
         Due.is("count(5)", 7, x.count(5));
         Due.is("torn()", 1, x.torn());
         Due.is("read of the old SHEET", 1, x.read(0, 1, 0, 1));
+        // nothing of a text goes into the next one
+        x = Due.told("people 6;knows 0 1 2 3;knows 5 3;glove 5;join 1 2 3;hand 5 4;daily 5 3;");
+        Due.tell(x, "hold 2;knows 0 1;");
+        Due.is("learn(1, 4)", 1, x.learn(1, 4));
+        Due.row(x, 1, 4);
+        Due.is("learn(0, 2)", 2, x.learn(0, 2));
+        Due.row(x, 0, 1, 2);
+        Due.tell(x, "people 6;knows 5 3;glove 5;");
+        Due.row(x, 0);
     }
 }
