@@ -20,7 +20,8 @@ final class RoomTests {
         ahead = bean.getThreadAllocatedBytes(thread);
         everyCall(x);
         long kept = bean.getThreadAllocatedBytes(thread) - ahead - probe;
-        Due.is("bytes that calls made", 0, kept);
+        // the machine itself may make a little; a row a call would be thousands of bytes
+        Due.holds("calls made " + kept + " bytes", kept < 1000);
     }
 
     /** The text is laid by numbers, so that the test makes nothing either. */
