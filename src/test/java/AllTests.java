@@ -1,9 +1,17 @@
+import java.nio.file.Path;
+
 /** Runs every test of the project. */
 public final class AllTests {
     private AllTests() {
     }
 
     public static void main(String[] args) throws Exception {
+        Sentence.open(Path.of(args[1]));
+        EdgeTextTests.run();
+        EdgeKnowTests.run();
+        EdgeSearchTests.run();
+        EdgeSheetTests.run();
+        Sentence.eachPromiseWasLooked();
         TextTests.run();
         KnowTests.run();
         SearchTests.run();

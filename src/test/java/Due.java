@@ -2,6 +2,8 @@
 final class Due {
     static int passed;
     static int failed;
+    /** The sentence of the document that is looked at; or nothing. */
+    static String sentence = "";
 
     private Due() {
     }
@@ -11,7 +13,7 @@ final class Due {
             passed++;
         } else {
             failed++;
-            System.out.println(call + " answered " + got + ", due is " + want);
+            System.out.println(sentence + call + " answered " + got + ", due is " + want);
         }
     }
 
@@ -20,11 +22,11 @@ final class Due {
     }
 
     /** Lays a text on an empty TAPE. */
-    static void lay(ShakeHands x, String text) {
+    static void lay(Hands x, String text) {
         lay(x, text.getBytes(java.nio.charset.StandardCharsets.ISO_8859_1));
     }
 
-    static void lay(ShakeHands x, byte[] bytes) {
+    static void lay(Hands x, byte[] bytes) {
         for (int i = 0; i < bytes.length; i += 8) {
             long v = 0;
             for (int j = i; j < i + 8; j++) {
@@ -36,13 +38,13 @@ final class Due {
     }
 
     /** A new object that was told a text which must be taken. */
-    static ShakeHands told(String text) {
-        ShakeHands x = new ShakeHands();
+    static Hands told(String text) {
+        Hands x = new Hands();
         tell(x, text);
         return x;
     }
 
-    static void tell(ShakeHands x, String text) {
+    static void tell(Hands x, String text) {
         lay(x, text);
         int lines = (int) text.chars().filter(c -> c == ';').count();
         is("text() of " + text, lines, x.text());
@@ -50,11 +52,11 @@ final class Due {
 
     /** That a text has a FAULT at a place. */
     static void refuses(String text, int fault, int place) {
-        ShakeHands x = new ShakeHands();
+        Hands x = new Hands();
         refuses(x, text, fault, place);
     }
 
-    static void refuses(ShakeHands x, String text, int fault, int place) {
+    static void refuses(Hands x, String text, int fault, int place) {
         lay(x, text);
         is("text() of " + text, -10 - place, x.text());
         is("fault() of " + text, fault, x.fault());
@@ -62,7 +64,7 @@ final class Due {
     }
 
     /** That a ONE has just this ROW. */
-    static void row(ShakeHands x, int p, int... things) {
+    static void row(Hands x, int p, int... things) {
         int bits = 0;
         for (int i = 0; i < things.length; i++) {
             is("row(" + p + ", " + i + ")", things[i], x.row(p, i));

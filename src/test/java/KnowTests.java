@@ -25,7 +25,7 @@ final class KnowTests {
     }
 
     private static void knowsRowWho() {
-        ShakeHands x = Due.told("people 4;knows 0 3 0 15;knows 3 0;");
+        Hands x = Due.told("people 4;knows 0 3 0 15;knows 3 0;");
         Due.is("knows(0)", 0x8009, x.knows(0));
         Due.is("knows(1)", 0, x.knows(1));
         Due.is("knows(4)", BAD, x.knows(4));
@@ -48,7 +48,7 @@ final class KnowTests {
     }
 
     private static void learn() {
-        ShakeHands x = Due.told("hold 3;knows 0 1 2;join 2 5 1;join 1 7 0;");
+        Hands x = Due.told("hold 3;knows 0 1 2;join 2 5 1;join 1 7 0;");
         Due.is("learn(3, 1)", BAD, x.learn(3, 1));
         Due.is("learn(-1, 1)", BAD, x.learn(-1, 1));
         Due.is("learn(0, 16)", BAD, x.learn(0, 16));
@@ -76,7 +76,7 @@ final class KnowTests {
     }
 
     private static void forget() {
-        ShakeHands x = Due.told("knows 0 4 1 9;knows 1 1;join 4 9 7;");
+        Hands x = Due.told("knows 0 4 1 9;knows 1 1;join 4 9 7;");
         Due.is("forget(3, 1)", BAD, x.forget(3, 1));
         Due.is("forget(0, 16)", BAD, x.forget(0, 16));
         Due.is("forget(0, -1)", BAD, x.forget(0, -1));
@@ -96,7 +96,7 @@ final class KnowTests {
     }
 
     private static void glove() {
-        ShakeHands x = new ShakeHands();
+        Hands x = new Hands();
         Due.is("glove(3, true)", BAD, x.glove(3, true));
         Due.is("glove(-1, false)", BAD, x.glove(-1, false));
         Due.is("glove(2, true)", 0, x.glove(2, true));
@@ -109,7 +109,7 @@ final class KnowTests {
     }
 
     private static void shake() {
-        ShakeHands x = Due.told("people 4;hold 4;knows 0 3 1;knows 2 5 1 4 9;");
+        Hands x = Due.told("people 4;hold 4;knows 0 3 1;knows 2 5 1 4 9;");
         Due.is("shake(0, 0)", BAD, x.shake(0, 0));
         Due.is("shake(0, 4)", BAD, x.shake(0, 4));
         Due.is("shake(4, 0)", BAD, x.shake(4, 0));
@@ -142,7 +142,7 @@ final class KnowTests {
         for (int a = 0; a < 6; a++) {
             for (int b = 0; b < 6; b++) {
                 if (a != b) {
-                    ShakeHands x = Due.told("people 6;knows " + a + " 4;");
+                    Hands x = Due.told("people 6;knows " + a + " 4;");
                     Due.is("shake", 1, x.shake(a, b));
                     Due.is("who(4)", 1 << a | 1 << b, x.who(4));
                 }
@@ -152,7 +152,7 @@ final class KnowTests {
 
     private static void joins() {
         // the first JOIN goes ahead, again and again
-        ShakeHands x = Due.told("knows 0 1 2;knows 1 3;join 3 4 5;join 1 2 4;");
+        Hands x = Due.told("knows 0 1 2;knows 1 3;join 3 4 5;join 1 2 4;");
         Due.is("shake", 1, x.shake(0, 1));
         Due.row(x, 0, 5);
         // of two that both could be made, the first of them
@@ -182,7 +182,7 @@ final class KnowTests {
     }
 
     private static void feast() {
-        ShakeHands x = Due.told("hold 1;knows 0 1;knows 1 2;knows 2 3;hand 0 1;hand 2 1;hand 2 0;");
+        Hands x = Due.told("hold 1;knows 0 1;knows 1 2;knows 2 3;hand 0 1;hand 2 1;hand 2 0;");
         Due.is("feast(-1)", BAD, x.feast(-1));
         Due.is("feast(4)", BAD, x.feast(4));
         Due.is("feast(0)", 0, x.feast(0));
@@ -197,12 +197,12 @@ final class KnowTests {
         x = Due.told("knows 0 1 6;knows 1 2;join 1 2 3;hand 0 1;");
         Due.is("feast(1)", 6, x.feast(1));
         Due.row(x, 0, 6, 3);
-        Due.is("feast(1) of none", BAD, new ShakeHands().feast(1));
-        Due.is("feast(0) of none", 0, new ShakeHands().feast(0));
+        Due.is("feast(1) of none", BAD, new Hands().feast(1));
+        Due.is("feast(0) of none", 0, new Hands().feast(0));
     }
 
     private static void after() {
-        ShakeHands x = Due.told("hold 1;knows 0 1;knows 1 2;knows 2 3;hand 0 1;hand 2 1;hand 2 0;");
+        Hands x = Due.told("hold 1;knows 0 1;knows 1 2;knows 2 3;hand 0 1;hand 2 1;hand 2 0;");
         Due.is("after(0, 0)", 2, x.after(0, 0));
         Due.is("after(1, 0)", 4, x.after(1, 0));
         Due.is("after(1, 2)", 8, x.after(1, 2));
@@ -219,7 +219,7 @@ final class KnowTests {
     }
 
     private static void lost() {
-        ShakeHands x = Due.told("hold 1;knows 0 1;knows 1 2;knows 2 3;hand 0 1;hand 2 1;hand 2 0;");
+        Hands x = Due.told("hold 1;knows 0 1;knows 1 2;knows 2 3;hand 0 1;hand 2 1;hand 2 0;");
         Due.is("lost(1)", 0, x.lost(1));
         Due.is("lost(2)", 2, x.lost(2));
         Due.is("lost(3)", NONE, x.lost(3));
@@ -238,7 +238,7 @@ final class KnowTests {
     }
 
     private static void told() {
-        ShakeHands x = Due.told("people 4;hold 2;knows 0 1;knows 1 2;hand 2 3;hand 0 1;hand 2 1;hand 1 0;glove 3;");
+        Hands x = Due.told("people 4;hold 2;knows 0 1;knows 1 2;hand 2 3;hand 0 1;hand 2 1;hand 1 0;glove 3;");
         Due.is("told(0, 1)", STATE, x.told(0, 1));
         Due.is("told(0, 2)", 1, x.told(0, 2));
         Due.is("told(2, 2)", 2, x.told(2, 2));
@@ -252,7 +252,7 @@ final class KnowTests {
     }
 
     private static void lives() {
-        ShakeHands x = Due.told("people 4;hold 1;knows 0 1;knows 1 2;knows 2 3;knows 3 4;daily 2 3;daily 1 2;daily 0 1;");
+        Hands x = Due.told("people 4;hold 1;knows 0 1;knows 1 2;knows 2 3;knows 3 4;daily 2 3;daily 1 2;daily 0 1;");
         Due.is("lives(0)", 0, x.lives(0));
         Due.is("lives(1)", 1, x.lives(1));
         Due.is("lives(3)", 1, x.lives(3));
@@ -288,7 +288,7 @@ final class KnowTests {
     }
 
     private static void comes() {
-        ShakeHands x = new ShakeHands();
+        Hands x = new Hands();
         Due.is("comes(0)", 0, x.comes(0));
         Due.is("comes(1)", 1, x.comes(1));
         Due.is("comes(2)", BAD, x.comes(2));
@@ -328,7 +328,7 @@ final class KnowTests {
     }
 
     private static void days() {
-        ShakeHands x = Due.told("people 4;hold 1;knows 0 1;knows 1 2;knows 2 3;knows 3 4;daily 0 1;daily 1 2;daily 2 3;");
+        Hands x = Due.told("people 4;hold 1;knows 0 1;knows 1 2;knows 2 3;knows 3 4;daily 0 1;daily 1 2;daily 2 3;");
         Due.is("days(0)", BAD, x.days(0));
         Due.is("days(100)", BAD, x.days(100));
         Due.is("days(-1)", BAD, x.days(-1));
@@ -341,6 +341,6 @@ final class KnowTests {
         Due.is("days(2)", 16, x.days(2));
         Due.row(x, 0, 4);
         Due.is("days(99)", 16, x.days(99));
-        Due.is("days(1) of none", 0, new ShakeHands().days(1));
+        Due.is("days(1) of none", 0, new Hands().days(1));
     }
 }

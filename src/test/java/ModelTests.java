@@ -1,32 +1,67 @@
+import java.lang.reflect.Method;
+import java.util.ArrayList;
+import java.util.Arrays;
+import java.util.HashMap;
+import java.util.List;
+import java.util.Map;
 import java.util.Random;
 
-/** The program against PlainModel, by runs of calls drawn from fixed seeds. */
+/** The program against PlainFace, by runs of calls drawn from fixed seeds: within, at and outside of their bounds. */
 final class ModelTests {
-    private static final int RUNS = 1000;
-    private static final int TEXTS = 20000;
+    private static final int RUNS = 1500;
+    private static final int TEXTS = 5000;
+    /** What a look at everything takes, and a text of 320 bytes behind it. */
+    private static final int LOOK = 140;
+    private static final int TOLD = 42;
+    /** Each call with what it takes, as often as it is drawn. */
+    private static final String[] CALLS = {
+        "feed v", "feed v", "end tape", "text", "fault", "rule what5", "hand hand is", "hand daily is", "join join what2",
+        "knows one", "row one row", "who thing", "learn one thing", "learn one thing", "forget one thing", "glove one is",
+        "shake one one", "shake one one", "shake one one", "feast part", "after part one", "after part one", "lost thing",
+        "lost thing", "told one thing", "told one thing", "fewest thing bits bits pair", "fewest thing bits others pair",
+        "rounds thing bits bits", "rounds thing bits others", "lose thing", "lives thing", "lives thing", "comes what1",
+        "comes what1", "days days", "saw one sight", "saw one sight", "blind", "fits many what2", "least",
+        "seats thing one seat", "seats thing one seat", "gloves thing one what1", "gloves thing one what1", "keep image",
+        "back image", "sheet sheet lane size", "lay sheet cell ones", "lay sheet cell ones", "lay sheet cell ones",
+        "read sheet lane cell hands", "read sheet lane cell hands", "torn", "count what5"};
+    private static final Map<String, Method> OURS = methods(Hands.class);
+    private static final Map<String, Method> MODELS = methods(PlainFace.class);
 
     private final Random random;
-    private final ShakeHands x = new ShakeHands();
-    private final PlainModel m = new PlainModel();
+    private final Hands x = new Hands();
+    private final PlainFace m = new PlainFace();
     private final StringBuilder told = new StringBuilder();
 
     private ModelTests(long seed) {
         random = new Random(seed);
     }
 
-    static void run() {
+    static void run() throws ReflectiveOperationException {
         for (int seed = 0; seed < RUNS; seed++) {
             new ModelTests(seed).drive();
         }
-        ModelTests texts = new ModelTests(77);
-        for (int i = 0; i < TEXTS; i++) {
-            texts.faultyText();
+        for (int seed = RUNS; seed < RUNS + TEXTS; seed++) {
+            ModelTests texts = new ModelTests(seed);
+            while (texts.x.left() >= LOOK + TOLD) {
+                texts.faultyText();
+            }
         }
+    }
+
+    private static Map<String, Method> methods(Class<?> of) {
+        Map<String, Method> all = new HashMap<>();
+        for (Method method : of.getDeclaredMethods()) {
+            method.setAccessible(true);
+            all.put(method.getName(), method);
+        }
+        return all;
     }
 
     private int below(int n) {
         return random.nextInt(n);
     }
+
+    // ---- texts
 
     private String text(int mostPeople) {
         int people = 2 + below(mostPeople - 1);
@@ -74,7 +109,7 @@ final class ModelTests {
     }
 
     /** A text with some bytes changed, mostly to a FAULT. */
-    private void faultyText() {
+    private void faultyText() throws ReflectiveOperationException {
         StringBuilder s = new StringBuilder(text(6));
         String signs = " ;0123456789az#knowspeople";
         for (int i = below(4); i > 0 && s.length() > 0; i--) {
@@ -102,170 +137,197 @@ final class ModelTests {
         same();
     }
 
-    private void tell(String text) {
-        told.setLength(0);
-        told.append(text).append(" | ");
+    private void tell(String text) throws ReflectiveOperationException {
         Due.lay(x, text);
-        is("text()", m.text(text), x.text());
-        is("fault()", m.fault, x.fault());
+        m.tape.setLength(0);
+        m.tape.append(text);
+        told.append(text).append(" | ");
+        ask("text");
+        ask("fault");
     }
 
-    private void is(String call, int want, int got) {
-        if (want != got) {
-            Due.is(told + call, want, got);
-        } else {
-            Due.passed++;
-        }
-    }
+    // ---- calls
 
-    private void same() {
-        is("rule(0)", m.people, x.rule(0));
-        is("rule(1)", m.hold, x.rule(1));
-        is("rule(2)", m.joins.size(), x.rule(2));
-        is("rule(3)", m.hands.size(), x.rule(3));
-        is("rule(4)", m.daily.size(), x.rule(4));
-        is("rule(5)", m.now.gloves.size(), x.rule(5));
-        for (int p = 0; p < m.people; p++) {
-            is("knows", PlainModel.bits(m.now.rows.get(p)), x.knows(p));
-            for (int i = 0; i <= 9; i++) {
-                int due = i < m.now.rows.get(p).size() ? m.now.rows.get(p).get(i) : ShakeHands.NONE;
-                is("row", due, x.row(p, i));
-            }
-        }
-        for (int i = 0; i < m.hands.size(); i++) {
-            is("hand", PlainModel.pair(m.hands.get(i)[0], m.hands.get(i)[1]), x.hand(i, false));
-        }
-        for (int i = 0; i < m.daily.size(); i++) {
-            is("daily", PlainModel.pair(m.daily.get(i)[0], m.daily.get(i)[1]), x.hand(i, true));
-        }
-        for (int j = 0; j < m.joins.size(); j++) {
-            for (int what = 0; what < 3; what++) {
-                is("join", m.joins.get(j)[what], x.join(j, what));
-            }
-        }
-        is("count(0)", Integer.bitCount(m.now.things()), x.count(0));
-        is("count(2)", m.seen.size(), x.count(2));
-    }
-
-    private void drive() {
+    private void drive() throws ReflectiveOperationException {
         // the model looks through everything: many PEOPLE take it long
-        tell(text(below(60) == 0 ? 6 : below(10) == 0 ? 5 : 4));
+        int most = below(50) == 0 ? 6 : below(10) == 0 ? 5 : 4;
+        tell(text(most));
+        while (x.left() > LOOK) {
+            boolean empty = m.m.now.things() == 0 && m.m.hands.isEmpty();
+            if (below(empty ? 6 : 60) == 0 && x.left() > LOOK + TOLD) {
+                x.end(0);
+                tell(text(most));
+            } else {
+                call(CALLS[below(CALLS.length)].split(" "));
+            }
+        }
         same();
-        for (int i = 0; i < 60; i++) {
-            call();
-            same();
+    }
+
+    private void call(String[] call) throws ReflectiveOperationException {
+        if (call[0].equals("text") && below(4) != 0) {
+            return;
+        }
+        Object[] arguments = new Object[call.length - 1];
+        for (int i = 0; i < arguments.length; i++) {
+            Class<?> type = OURS.get(call[0]).getParameterTypes()[i];
+            if (type == boolean.class) {
+                arguments[i] = below(3) == 0;
+            } else if (type == long.class) {
+                arguments[i] = bytes();
+            } else {
+                arguments[i] = number(call[i + 1]);
+            }
+        }
+        ask(call[0], arguments);
+    }
+
+    /** Calls both and compares the answers. */
+    private void ask(String name, Object... arguments) throws ReflectiveOperationException {
+        int due = (Integer) MODELS.get(name).invoke(m, arguments);
+        int got = (Integer) OURS.get(name).invoke(x, arguments);
+        told.append(name).append(Arrays.toString(arguments)).append(' ');
+        if (due == got) {
+            Due.passed++;
+        } else {
+            Due.is(told.toString(), due, got);
         }
     }
 
-    /** A THING, mostly one that somebody knows. */
-    private int thing() {
-        int thing = below(16);
-        for (int i = 0; i < 8 && m.now.who(thing) == 0; i++) {
-            thing = below(16);
+    private long bytes() {
+        String some = below(4) == 0 ? "glove 0;hold 3; " : text(4);
+        int from = below(some.length() - 8);
+        long v = 0;
+        for (int i = 0; i < 8; i++) {
+            v = v << 8 | some.charAt(from + i);
         }
-        return thing;
+        return below(20) == 0 ? random.nextLong() : v;
     }
 
-    private void call() {
-        int p = below(m.people);
-        int q = (p + 1 + below(m.people - 1)) % m.people;
-        int thing = thing();
-        int some = below(1 << m.people);
-        int others = below(2) == 0 ? 0 : below(1 << m.people) & ~some;
-        int what = below(2);
-        told.append(p + "," + q + "," + thing + "," + some + "," + others + "," + what + " ");
-        switch (below(26)) {
-            case 0:
-                is("learn", m.learn(p, thing), x.learn(p, thing));
-                break;
-            case 1:
-                is("forget", m.forget(p, thing), x.forget(p, thing));
-                break;
-            case 2:
-                boolean is = below(4) == 0;
-                boolean did = is ? !m.now.gloves.add(p) : m.now.gloves.remove(p);
-                is("glove", did ? 1 : 0, x.glove(p, is));
-                break;
-            case 3:
-                boolean shaken = m.shake(m.now, p, q);
-                is("shake", shaken ? m.now.rows.get(p).size() : ShakeHands.NONE, x.shake(p, q));
-                break;
-            case 4:
-                int n = below(m.hands.size() + 1);
-                int before = m.now.things();
-                if (below(3) == 0) {
-                    m.now = m.behind(m.hands, n);
-                    is("feast", before & ~m.now.things(), x.feast(n));
+    /** A number as the call takes it; now and then one at its bounds or outside of them. */
+    private int number(String kind) {
+        int[] bounds = bounds(kind);
+        if (below(14) == 0) {
+            int[] edges = {bounds[0] - 1, bounds[0], bounds[1], bounds[1] + 1, Integer.MIN_VALUE, Integer.MAX_VALUE,
+                random.nextInt()};
+            return edges[below(edges.length)];
+        }
+        int drawn = bounds[0] + (bounds[1] < bounds[0] ? 0 : below(bounds[1] - bounds[0] + 1));
+        switch (kind) {
+            case "thing":
+                for (int i = 0; i < 8 && m.m.now.who(drawn) == 0; i++) {
+                    drawn = below(16);
                 }
-                break;
-            case 5:
-                int part = below(m.hands.size() + 1);
-                is("after", PlainModel.bits(m.behind(m.hands, part).rows.get(p)), x.after(part, p));
-                break;
-            case 6:
-            case 7:
-                is("lost", m.lost(thing), x.lost(thing));
-                is("told", m.told(p, thing), x.told(p, thing));
-                break;
-            case 8:
-                is("fewest", m.fewest(thing, some, others, 0), x.fewest(thing, some, others, 0));
-                for (int i = 10; i < 14; i++) {
-                    is("fewest " + i, m.fewest(thing, some, others, i), x.fewest(thing, some, others, i));
-                }
-                break;
-            case 9:
-            case 10:
-                is("rounds", m.rounds(thing, some, others), x.rounds(thing, some, others));
-                break;
-            case 11:
-                is("lose", m.lose(thing), x.lose(thing));
-                break;
-            case 12:
-            case 13:
-                is("lives", m.lives(thing), x.lives(thing));
-                break;
-            case 14:
-            case 15:
-                is("comes", m.comes(what), x.comes(what));
-                break;
-            case 16:
-                int days = 1 + below(3);
-                is("days", m.days(days), x.days(days));
-                break;
-            case 17:
-            case 18:
-                int sight = below(4) == 0 ? below(65536) : PlainModel.bits(m.behind(m.hands, m.hands.size()).rows.get(p));
-                m.seen.put(p, sight);
-                is("saw", m.seen.size(), x.saw(p, sight));
-                break;
-            case 19:
-                is("blind", m.seen.size(), x.blind());
-                m.seen.clear();
-                break;
-            case 20:
-                int hands = below(4);
-                for (int i = 0; i < 3; i++) {
-                    is("fits " + hands, m.fits(hands, i), x.fits(hands, i));
-                }
-                break;
-            case 21:
-                is("least", m.least(), x.least());
-                break;
-            case 22:
-                is("seats", m.seats(thing, p, 0), x.seats(thing, p, 0));
-                for (int i = 0; i < m.people; i++) {
-                    is("seats " + i, m.seats(thing, p, 10 + i), x.seats(thing, p, 10 + i));
-                }
-                break;
-            case 23:
-                is("gloves", m.gloves(thing, p, what), x.gloves(thing, p, what));
-                break;
-            case 24:
-                is("keep", m.keep(what), x.keep(what));
-                break;
+                return drawn;
+            case "others":
+                return below(2) == 0 ? 0 : drawn & below(1 << m.m.people);
+            case "pair":
+            case "seat":
+                return below(3) == 0 ? 0 : drawn;
+            case "days":
+                return below(9) == 0 ? drawn : 1 + below(3);
+            case "sight":
+                int p = below(m.m.people);
+                List<Integer> row = m.m.behind(m.m.hands, below(m.m.hands.size() + 1)).rows.get(p);
+                return below(6) == 0 ? drawn : PlainModel.bits(row);
+            case "ones":
+                return below(6) == 0 ? random.nextInt() : below(m.m.people) + (below(9) == 0 ? 256 << 8 * below(3) : 0);
+            case "many":
+                return m.m.people > 4 ? below(4) : drawn;
+            case "size":
+                return below(3) == 0 ? drawn : below(9);
+            case "cell":
+                return below(3) == 0 ? drawn : below(9);
+            case "sheet":
+            case "lane":
+                return below(2) == 0 ? 0 : drawn;
             default:
-                is("back", m.back(what), x.back(what));
-                break;
+                return drawn;
         }
+    }
+
+    private int[] bounds(String kind) {
+        int people = m.m.people;
+        switch (kind) {
+            case "one":
+                return new int[] {0, people - 1};
+            case "thing":
+                return new int[] {0, 15};
+            case "bits":
+            case "others":
+                return new int[] {0, (1 << people) - 1};
+            case "pair":
+                return new int[] {10, 13};
+            case "seat":
+                return new int[] {10, 9 + people};
+            case "row":
+                return new int[] {0, 9};
+            case "tape":
+                return new int[] {0, m.tape.length()};
+            case "hand":
+                return new int[] {0, m.m.hands.size() - 1};
+            case "daily":
+                return new int[] {0, m.m.daily.size() - 1};
+            case "part":
+                return new int[] {0, m.m.hands.size()};
+            case "join":
+                return new int[] {0, m.m.joins.size() - 1};
+            case "days":
+                return new int[] {1, 99};
+            case "sight":
+                return new int[] {0, 65535};
+            case "many":
+                return new int[] {0, 4};
+            case "image":
+                return new int[] {0, 1};
+            case "sheet":
+                return new int[] {0, 3};
+            case "lane":
+                return new int[] {0, 2};
+            case "size":
+                return new int[] {0, 40};
+            case "cell":
+                return new int[] {0, 39};
+            case "hands":
+                return new int[] {0, below(3) == 0 ? 20 : 2};
+            case "ones":
+                return new int[] {0, people - 1};
+            default:
+                // "what5": 0 to 5
+                return new int[] {0, kind.charAt(kind.length() - 1) - '0'};
+        }
+    }
+
+    // ---- everything
+
+    private void same() throws ReflectiveOperationException {
+        for (int what = 0; what <= 5; what++) {
+            ask("rule", what);
+            ask("count", what);
+        }
+        for (int p = 0; p < m.m.people; p++) {
+            ask("knows", p);
+            for (int i = 0; i <= m.m.now.rows.get(p).size(); i++) {
+                ask("row", p, i);
+            }
+        }
+        for (int i = 0; i < m.m.hands.size(); i++) {
+            ask("hand", i, false);
+        }
+        for (int i = 0; i < m.m.daily.size(); i++) {
+            ask("hand", i, true);
+        }
+        for (int j = 0; j < m.m.joins.size(); j++) {
+            for (int what = 0; what < 3; what++) {
+                ask("join", j, what);
+            }
+        }
+        List<Integer> gloves = new ArrayList<>(m.m.now.gloves);
+        for (int p : gloves) {
+            ask("glove", p, true);
+        }
+        ask("fits", 0, 0);
+        ask("torn");
+        ask("fault");
     }
 }

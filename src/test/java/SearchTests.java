@@ -21,7 +21,7 @@ final class SearchTests {
     }
 
     private static void fewest() {
-        ShakeHands x = Due.told("people 6;knows 0 1;knows 3 2;");
+        Hands x = Due.told("people 6;knows 0 1;knows 3 2;");
         int[][] bad = {{-1, 0, 0, 0}, {16, 0, 0, 0}, {1, -1, 0, 0}, {1, 64, 0, 0}, {1, 0, -1, 0}, {1, 0, 64, 0},
             {1, 1, 0, 1}, {1, 1, 0, -1}, {1, 1, 0, 9}, {1, 1, 0, 14}, {1, 1, 0, Integer.MIN_VALUE}};
         for (int[] b : bad) {
@@ -57,7 +57,7 @@ final class SearchTests {
     }
 
     private static void fewestFirstByPairs() {
-        ShakeHands x = Due.told("people 4;knows 0 1;");
+        Hands x = Due.told("people 4;knows 0 1;");
         // 0-1, 0-2, 0-3 are PAIRS 0, 1, 3; likewise 0-1, then 1-2
         Due.is("fewest", 3, x.fewest(1, 15, 0, 0));
         Due.is("first", 0, x.fewest(1, 15, 0, 10));
@@ -72,7 +72,7 @@ final class SearchTests {
     }
 
     private static void fewestAtAnyTime() {
-        ShakeHands x = Due.told("people 3;knows 0 1;knows 1 2;knows 2 4;join 1 2 3;join 3 4 5;");
+        Hands x = Due.told("people 3;knows 0 1;knows 1 2;knows 2 4;join 1 2 3;join 3 4 5;");
         Due.is("5 to 1", 2, x.fewest(5, 2, 0, 0));
         Due.is("5 to 1, not to the others", NONE, x.fewest(5, 2, 5, 0));
         Due.is("3 to nobody", 0, x.fewest(3, 0, 7, 0));
@@ -90,7 +90,7 @@ final class SearchTests {
     }
 
     private static void rounds() {
-        ShakeHands x = Due.told("people 6;knows 0 1;knows 3 2;");
+        Hands x = Due.told("people 6;knows 0 1;knows 3 2;");
         int[][] bad = {{-1, 0, 0}, {16, 0, 0}, {1, -1, 0}, {1, 64, 0}, {1, 0, -1}, {1, 0, 64}};
         for (int[] b : bad) {
             Due.is("rounds", BAD, x.rounds(b[0], b[1], b[2]));
@@ -125,7 +125,7 @@ final class SearchTests {
     }
 
     private static void lose() {
-        ShakeHands x = Due.told("people 2;hold 1;knows 0 7;knows 1 8;");
+        Hands x = Due.told("people 2;hold 1;knows 0 7;knows 1 8;");
         Due.is("lose(8)", NONE, x.lose(8));
         Due.is("lose(7)", 1, x.lose(7));
         Due.is("lose(1)", 0, x.lose(1));
@@ -143,7 +143,7 @@ final class SearchTests {
     }
 
     private static void saw() {
-        ShakeHands x = new ShakeHands();
+        Hands x = new Hands();
         Due.is("saw(3, 0)", BAD, x.saw(3, 0));
         Due.is("saw(-1, 0)", BAD, x.saw(-1, 0));
         Due.is("saw(0, -1)", BAD, x.saw(0, -1));
@@ -159,7 +159,7 @@ final class SearchTests {
     }
 
     private static void fits() {
-        ShakeHands x = Due.told("people 4;knows 0 1;knows 1 2;knows 2 3;knows 3 4;");
+        Hands x = Due.told("people 4;knows 0 1;knows 1 2;knows 2 3;knows 3 4;");
         Due.is("fits(-1, 0)", BAD, x.fits(-1, 0));
         Due.is("fits(5, 0)", BAD, x.fits(5, 0));
         Due.is("fits(0, -1)", BAD, x.fits(0, -1));
@@ -204,7 +204,7 @@ final class SearchTests {
     }
 
     private static void least() {
-        ShakeHands x = Due.told("people 6;knows 0 1;");
+        Hands x = Due.told("people 6;knows 0 1;");
         Due.is("least() of none SEEN", 0, x.least());
         x.saw(0, 2);
         Due.is("least() now", 0, x.least());
@@ -228,7 +228,7 @@ final class SearchTests {
     }
 
     private static void seats() {
-        ShakeHands x = Due.told("people 3;knows 0 1;");
+        Hands x = Due.told("people 3;knows 0 1;");
         Due.is("seats(16, 1, 0)", BAD, x.seats(16, 1, 0));
         Due.is("seats(-1, 1, 0)", BAD, x.seats(-1, 1, 0));
         Due.is("seats(1, 3, 0)", BAD, x.seats(1, 3, 0));
@@ -276,7 +276,7 @@ final class SearchTests {
     }
 
     private static void gloves() {
-        ShakeHands x = Due.told("people 5;knows 0 1;hand 0 1;hand 0 2;hand 1 3;hand 2 3;hand 3 4;");
+        Hands x = Due.told("people 5;knows 0 1;hand 0 1;hand 0 2;hand 1 3;hand 2 3;hand 3 4;");
         Due.is("gloves(16, 4, 0)", BAD, x.gloves(16, 4, 0));
         Due.is("gloves(-1, 4, 0)", BAD, x.gloves(-1, 4, 0));
         Due.is("gloves(1, 5, 0)", BAD, x.gloves(1, 5, 0));

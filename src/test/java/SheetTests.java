@@ -20,7 +20,7 @@ final class SheetTests {
     }
 
     private static void keepAndBack() {
-        ShakeHands x = Due.told("people 4;knows 0 5 1;knows 3 2;glove 2;daily 0 1;");
+        Hands x = Due.told("people 4;knows 0 5 1;knows 3 2;glove 2;daily 0 1;");
         Due.is("keep(2)", BAD, x.keep(2));
         Due.is("keep(-1)", BAD, x.keep(-1));
         Due.is("back(2)", BAD, x.back(2));
@@ -63,7 +63,7 @@ final class SheetTests {
     }
 
     private static void sheet() {
-        ShakeHands x = new ShakeHands();
+        Hands x = new Hands();
         Due.is("sheet(-1, 0, 1)", BAD, x.sheet(-1, 0, 1));
         Due.is("sheet(4, 0, 1)", BAD, x.sheet(4, 0, 1));
         Due.is("sheet(0, -1, 1)", BAD, x.sheet(0, -1, 1));
@@ -96,7 +96,7 @@ final class SheetTests {
     }
 
     private static void lay() {
-        ShakeHands x = new ShakeHands();
+        Hands x = new Hands();
         Due.is("lay(4)", BAD, x.lay(4, 0, 1));
         Due.is("lay(-1)", BAD, x.lay(-1, 0, 1));
         Due.is("lay of nothing", -11, x.lay(2, 0, 1));
@@ -113,7 +113,7 @@ final class SheetTests {
 
     /** The lowest bits, with a sign. */
     private static void lanes() {
-        ShakeHands x = new ShakeHands();
+        Hands x = new Hands();
         int[] values = {257, 65537, 255, 65535, -255, 1};
         int[][] read = {{1, -20, -20}, {1, 1, -20}, {-20, -20, -20}, {-20, -20, -20}, {1, -20, -20}, {1, 1, 1}};
         for (int v = 0; v < values.length; v++) {
@@ -126,7 +126,7 @@ final class SheetTests {
     }
 
     private static void read() {
-        ShakeHands x = Due.told("people 3;hold 1;knows 0 1;knows 1 2;knows 2 3;");
+        Hands x = Due.told("people 3;hold 1;knows 0 1;knows 1 2;knows 2 3;");
         x.sheet(1, 2, 8);
         int[] cells = {9, 0, 1, 2, 1, 0, 2, 9};
         for (int i = 0; i < 8; i++) {
@@ -154,7 +154,7 @@ final class SheetTests {
     }
 
     private static void readTorn() {
-        ShakeHands x = Due.told("people 3;knows 0 1;");
+        Hands x = Due.told("people 3;knows 0 1;");
         x.sheet(0, 1, 4);
         x.lay(0, 1, 1);
         x.lay(0, 2, 2);
@@ -189,7 +189,7 @@ final class SheetTests {
     }
 
     private static void readBad() {
-        ShakeHands x = Due.told("people 3;knows 0 1;");
+        Hands x = Due.told("people 3;knows 0 1;");
         x.sheet(0, 0, 6);
         int[][] bad = {{0, 0}, {0, 3}, {3, 0}, {-1, 0}, {0, -1}, {2, 2}, {127, -128}};
         x.read(1, 0, 0, 1);
@@ -216,7 +216,7 @@ final class SheetTests {
     }
 
     private static void readGloves() {
-        ShakeHands x = Due.told("people 3;knows 0 1;glove 1;");
+        Hands x = Due.told("people 3;knows 0 1;glove 1;");
         x.sheet(0, 0, 4);
         x.lay(0, 1, 1);
         x.lay(0, 3, 2);
@@ -227,7 +227,7 @@ final class SheetTests {
     }
 
     private static void count() {
-        ShakeHands x = Due.told("people 4;knows 0 5 1;knows 1 1 7;knows 2 1;");
+        Hands x = Due.told("people 4;knows 0 5 1;knows 1 1 7;knows 2 1;");
         Due.is("count(-1)", BAD, x.count(-1));
         Due.is("count(6)", BAD, x.count(6));
         Due.is("count(0)", 3, x.count(0));

@@ -28,7 +28,7 @@ final class TextTests {
     }
 
     private static void newObject() {
-        ShakeHands x = new ShakeHands();
+        Hands x = new Hands();
         Due.is("rule(0)", 3, x.rule(0));
         Due.is("rule(1)", 9, x.rule(1));
         for (int what = 2; what <= 5; what++) {
@@ -55,7 +55,7 @@ final class TextTests {
     }
 
     private static void feed() {
-        ShakeHands x = new ShakeHands();
+        Hands x = new Hands();
         // "hold 4;@": the highest byte first
         Due.is("feed", 8, x.feed(0x686F6C6420343B40L));
         Due.is("feed", 16, x.feed(-1L));
@@ -77,7 +77,7 @@ final class TextTests {
     }
 
     private static void end() {
-        ShakeHands x = new ShakeHands();
+        Hands x = new Hands();
         Due.is("end(0)", 0, x.end(0));
         Due.is("end(1)", BAD, x.end(1));
         x.feed(0L);
@@ -93,7 +93,7 @@ final class TextTests {
     }
 
     private static void taken() {
-        ShakeHands x = Due.told("people 6;hold 4;knows 5 15 0 9;join 1 2 3;hand 5 4;daily 1 0;glove 2;glove 5;");
+        Hands x = Due.told("people 6;hold 4;knows 5 15 0 9;join 1 2 3;hand 5 4;daily 1 0;glove 2;glove 5;");
         Due.is("fault()", 0, x.fault());
         Due.is("rule(0)", 6, x.rule(0));
         Due.is("rule(1)", 4, x.rule(1));
@@ -119,7 +119,7 @@ final class TextTests {
     }
 
     private static void emptyText() {
-        ShakeHands x = Due.told("people 5;hold 2;knows 4 1;join 1 2 3;hand 0 1;daily 0 1;glove 3;");
+        Hands x = Due.told("people 5;hold 2;knows 4 1;join 1 2 3;hand 0 1;daily 0 1;glove 3;");
         Due.is("text()", 0, x.text());
         newObjectRules(x);
         x = Due.told("people 5;");
@@ -128,7 +128,7 @@ final class TextTests {
         newObjectRules(x);
     }
 
-    private static void newObjectRules(ShakeHands x) {
+    private static void newObjectRules(Hands x) {
         Due.is("rule(0)", 3, x.rule(0));
         Due.is("rule(1)", 9, x.rule(1));
         for (int what = 2; what <= 5; what++) {
@@ -142,7 +142,7 @@ final class TextTests {
         Due.told("  people  5  ;  hold 3 ; ");
         Due.told("people5;hold3;");
         Due.told("knows0 1;hand0 1;");
-        ShakeHands x = Due.told("people 05;hold 09;knows 00 01;");
+        Hands x = Due.told("people 05;hold 09;knows 00 01;");
         Due.is("rule(0)", 5, x.rule(0));
         Due.row(x, 0, 1);
         Due.refuses("knows 01;", 2, 8);
@@ -164,7 +164,7 @@ final class TextTests {
     }
 
     private static void ruleHandJoin() {
-        ShakeHands x = Due.told("people 6;hand 0 1;hand 5 4;hand 3 5;daily 2 0;join 7 5 9;join 0 15 1;");
+        Hands x = Due.told("people 6;hand 0 1;hand 5 4;hand 3 5;daily 2 0;join 7 5 9;join 0 15 1;");
         Due.is("rule(-1)", BAD, x.rule(-1));
         Due.is("rule(6)", BAD, x.rule(6));
         Due.is("hand(0)", 0, x.hand(0, false));
@@ -320,7 +320,7 @@ final class TextTests {
     }
 
     private static void refusedTextChangesNothing() {
-        ShakeHands x = Due.told("people 4;hold 3;knows 0 7 5;join 1 2 3;hand 0 1;daily 1 3;glove 2;");
+        Hands x = Due.told("people 4;hold 3;knows 0 7 5;join 1 2 3;hand 0 1;daily 1 3;glove 2;");
         x.saw(0, 5);
         x.keep(1);
         Due.refuses(x, "people 2;hold 1;knows 0 1;join 3 4 5;hand 1 0;daily 0 1;glove 0;glove 0;", 4, 70);
@@ -341,7 +341,7 @@ final class TextTests {
     }
 
     private static void whatATextLeaves() {
-        ShakeHands x = Due.told("people 4;hold 3;knows 0 7 5;glove 2;");
+        Hands x = Due.told("people 4;hold 3;knows 0 7 5;glove 2;");
         x.sheet(0, 1, 7);
         x.lay(0, 1, 1);
         x.read(1, 0, 0, 1);
