@@ -11,7 +11,10 @@ public final class AllTests {
         EdgeKnowTests.run();
         EdgeSearchTests.run();
         EdgeSheetTests.run();
+        StoryTests.run();
+        FaceTests.run(args[0]);
         Sentence.eachPromiseWasLooked();
+        Sentence.eachWordWasLooked();
         TextTests.run();
         KnowTests.run();
         SearchTests.run();

@@ -50,15 +50,16 @@ final class EdgeKnowTests {
         says(16, "The first n HANDS (0 to as many as there are) of THE FEAST are shaken:", EdgeKnowTests::firstHands);
         says(16, "THINGS that somebody knew and nobody knows then (bits). BAD.", EdgeKnowTests::knewOnce);
         says(17, "By itself: what a ONE knows behind n HANDS (bits). BAD.", EdgeKnowTests::after);
-        says(18, "the HAND (its number) behind which a THING is known to nobody for the first time.", EdgeKnowTests::lost);
+        says(18, "By itself: the HAND (its number) behind which a THING is known to nobody for the first time.",
+                EdgeKnowTests::lost);
         says(18, "BAD; STATE: nobody knows it now; NONE: it is always known.", EdgeKnowTests::lostRefused);
         says(19, "By itself: the HAND with which a ONE knows a THING for the first time.", EdgeKnowTests::told);
         says(19, "BAD; STATE: he knows it now; NONE: never.", EdgeKnowTests::toldRefused);
     }
 
     private static void habit() {
-        says(23, "the DAY (1: the first) behind which nobody knows a THING for the first time (0: nobody knows it now).",
-                EdgeKnowTests::lives);
+        says(23, "THE HABIT: the DAY (1: the first) behind which nobody knows a THING for the first time (0: nobody knows "
+                + "it now).", EdgeKnowTests::lives);
         says(23, "BAD; NONE: not within 200.", EdgeKnowTests::notWithin);
         says(24, "The least DAY (0: now) whose end all ROWS come back to (what 0), behind how many DAYS at first (1).",
                 EdgeKnowTests::comes);

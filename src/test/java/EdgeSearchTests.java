@@ -36,6 +36,7 @@ final class EdgeSearchTests {
     }
 
     private static void calls() {
+        says(20, "FEWEST so that some (bits) know a THING and others (bits) never:", EdgeSearchTests::fewestSoThat);
         says(20, "how many HANDS (what 0); 10 and i: the PAIR of the i-th.", EdgeSearchTests::fewest);
         says(20, "BAD (bits of PEOPLE);", EdgeSearchTests::fewestBad);
         says(20, "NONE: not by 4 (10 and i (0 to 3): there is no such one).", EdgeSearchTests::fewestNone);
@@ -273,6 +274,25 @@ final class EdgeSearchTests {
             }
         }
         Twins.leaves(Twins.RICH, "fewest of RICH", 1, x -> x.fewest(7, 3, 8, 0));
+    }
+
+    private static void fewestSoThat() {
+        // ONE k knows THING k: each of some needs a HAND of k's or of one who was told
+        for (int k = 0; k < 6; k++) {
+            Hands x = Due.told("people 6;knows 0 0;knows 1 1;knows 2 2;knows 3 3;knows 4 4;knows 5 5;");
+            for (int some = 0; some < 64; some++) {
+                int told = Integer.bitCount(some & ~(1 << k));
+                int others = 63 & ~some & ~(1 << k);
+                Due.is("some " + some + " know " + k, told <= 4 ? told : NONE, x.fewest(k, some, 0, 0));
+                Due.is("some " + some + " know " + k + ", the others never", told <= 4 ? told : NONE,
+                        x.fewest(k, some, others, 0));
+                Due.is("some " + some + " know " + k + ", he never", NONE, x.fewest(k, some, 1 << k, 0));
+            }
+        }
+        // the THING that is asked for, not another one that they know
+        Twins.leaves(Twins.text("knows 0 1 2;knows 1 1;"), "THING 1", 0, x -> x.fewest(1, 3, 4, 0));
+        Twins.leaves(Twins.text("knows 0 1 2;knows 1 1;"), "THING 2", 1, x -> x.fewest(2, 3, 4, 0));
+        Twins.leaves(Twins.text("knows 0 1 2;knows 1 1;"), "THING 3", NONE, x -> x.fewest(3, 3, 4, 0));
     }
 
     private static void fewestBad() {

@@ -11,7 +11,8 @@ final class EdgeTextTests {
     }
 
     static void run() {
-        says("An object is used for at most 512 calls after it has been made", EdgeTextTests::manyCalls);
+        says("An object is used for at most 512 calls after it has been made; what later calls answer is free.",
+                EdgeTextTests::manyCalls);
         says("Answers: BAD -1 (a number is not as told, there is no such ONE, THING, HAND, IMAGE, SHEET), STATE -2 "
                 + "(as told), FULL -3, NONE -4 (there is none), the first that fits;", EdgeTextTests::firstThatFits);
         says("what is refused changes nothing (but THE TAPE, as told).", EdgeTextTests::refusedTexts);
@@ -30,6 +31,8 @@ final class EdgeTextTests {
         says("NUMBERS (1 or 2 figures)", EdgeTextTests::numbers);
         says("the sign ; (a point is none).", EdgeTextTests::sign);
         says("text: { line }", EdgeTextTests::lines);
+        says("line: people N ; | hold N ; | knows N N { N } ; | join N N N ; | hand N N ; | daily N N ; | glove N ;",
+                EdgeTextTests::eachLine);
         says("people: 2 to 6.", () -> bounds("people ", ";", 2, 6, 7));
         says("hold: 1 to 9.", () -> bounds("hold ", ";", 1, 9, 5));
         says("knows: a ONE (0 to 5), his THINGS, the eldest first (9 at most).", EdgeTextTests::knowsLine);
@@ -67,7 +70,7 @@ final class EdgeTextTests {
         says(4, "THE TAPE (empty then, by a FAULT, too) tells all: how many lines;", EdgeTextTests::text);
         says(4, "-10 less the place of its FAULT: that which was told stays.", EdgeTextTests::textRefused);
         says(5, "The FAULT of the latest text(); 0.", EdgeTextTests::fault);
-        says(6, "0 PEOPLE, 1 HOLD, 2 JOINS, 3 HANDS, 4 DAILY HANDS, 5 with GLOVES. BAD.", EdgeTextTests::rule);
+        says(6, "How many: 0 PEOPLE, 1 HOLD, 2 JOINS, 3 HANDS, 4 DAILY HANDS, 5 with GLOVES. BAD.", EdgeTextTests::rule);
         says(7, "Of HAND i of THE FEAST (daily: of DAILY ones): its PAIR. BAD.", EdgeTextTests::hand);
         says(8, "Of JOIN j: 0, 1 the THINGS (as told), 2 what they become. BAD.", EdgeTextTests::join);
     }
@@ -365,6 +368,33 @@ final class EdgeTextTests {
         Due.refuses(most + "hold", 4, most.length());
         Due.refuses(";", 2, 0);
         Due.refuses("hold 3;3", 2, 7);
+    }
+
+    /** As many NUMBERS as its line takes, and the sign; any line behind any other. */
+    private static void eachLine() {
+        String[] lines = {"people 6;", "hold 9;", "knows 2 1;", "join 1 2 3;", "hand 4 5;", "daily 5 4;", "glove 3;"};
+        for (String line : lines) {
+            String ahead = line.equals(lines[0]) ? "hold 8;" : lines[0];
+            String whole = ahead + line.substring(0, line.length() - 1);
+            Due.told(whole + ";");
+            Due.refuses(whole, 2, whole.length());
+            Due.refuses(whole + " hold 3;", 2, whole.length() + 1);
+            Due.refuses(whole + ";;", 2, whole.length() + 1);
+            for (int cut = whole.lastIndexOf(' '); cut > ahead.length(); cut = whole.lastIndexOf(' ', cut - 1)) {
+                Due.refuses(whole.substring(0, cut) + ";", 2, cut);
+            }
+            if (line.startsWith("knows")) {
+                Due.told(whole + " 7;");
+                Due.told(whole + " 7 8;");
+            } else {
+                Due.refuses(whole + " 7;", 2, whole.length() + 1);
+            }
+            for (String other : lines) {
+                if (!other.equals(line)) {
+                    Due.told(line + other + ((line + other).contains(lines[0]) ? "" : lines[0]));
+                }
+            }
+        }
     }
 
     private static void knowsLine() {
