@@ -22,6 +22,7 @@ public final class AllTests {
         ModelTests.run();
         RoomTests.run();
         LanguageTests.run(args[0]);
+        ReadmeTests.run(args[2]);
         System.out.println(Due.passed + " passed, " + Due.failed + " failed");
         if (Due.failed != 0) {
             System.exit(1);
